@@ -482,7 +482,7 @@ public final class PartSums {
             case LAY_TWOS:
                 return set == 0 ? 1 : measurePairs(ground, what, set, row);
             case LAY_HANGING:
-                return ground.hangsWhole(set) ? 1 : 0;
+                return hangsWhole(ground, set, row) ? 1 : 0;
             case LAY_THINGS:
                 return Integer.bitCount(set);
             default:
@@ -502,6 +502,23 @@ public final class PartSums {
             return mates == rest ? row[rest] : 0;
         }
         return row[rest] << Integer.bitCount(mates);
+    }
+
+    /**
+     * What hangs together does so still without some one of its things, which is joined with another of it: the
+     * numbers of the sets with one thing less stand in the row already.
+     */
+    private static boolean hangsWhole(Ground ground, int set, int[] row) {
+        for (int thing = 0; thing < ground.things; thing++) {
+            int rest = set ^ 1 << thing;
+            if (rest == 0) {
+                return true;
+            }
+            if (rest < set && row[rest] == 1 && (ground.mates(thing) & rest) != 0) {
+                return true;
+            }
+        }
+        return false;
     }
 
     /** Leaves in the left row the least price of each part of a set. */
@@ -726,21 +743,6 @@ public final class PartSums {
                     turnPair(b, thing);
                 }
             }
-        }
-
-        /** Whether all of a set (not empty) is reached by its pairs from its least thing. */
-        boolean hangsWhole(int set) {
-            int reached = set & -set;
-            for (int round = 1; round < things; round++) {
-                int wider = reached;
-                for (int thing = 0; thing < things; thing++) {
-                    if ((reached >> thing & 1) == 1) {
-                        wider |= mates(thing) & set;
-                    }
-                }
-                reached = wider;
-            }
-            return set != 0 && reached == set;
         }
     }
 

@@ -125,6 +125,15 @@ public final class PromiseTest {
         x.put(2, 1, 5);
         x.weigh(7, 5);
         x.image(0);
+        PartSums y = Check.with("things 8;");
+        for (int row = 0; row < 4; row++) {
+            y.put(row, 0, 1);
+            y.put(row, 255, 1);
+        }
+        Check.tell(y, "things 8;");
+        for (int row = 0; row < 4; row++) {
+            due("4: rows are 0", y.at(row, 0) + y.at(row, 255), 0);
+        }
         due("4: a fault", Check.tell(x, "things 4;set e;"), -14);
         due("4: tape with a fault", x.now(4), 0);
         due("4: things stay", x.now(0), 3);
@@ -217,6 +226,7 @@ public final class PromiseTest {
         x.put(3, 7, 12);
         due("9: put", x.at(3, 7), 12);
         due("9: another row", x.at(2, 7), 0);
+        due("9: of one thing", Check.with("things 1;").at(3, 1), 0);
         due("9: none", x.at(4, 0), -1);
         due("9: none", x.at(-1, 0), -1);
         due("9: none", x.at(0, 8), -1);
@@ -388,6 +398,15 @@ public final class PromiseTest {
         due("16: both", x.times(0, 1, 0, 2), 0);
         row("16: both", x, 2, 1, 0, 0, 0);
         due("16: into itself", x.inverse(0, 0), x.at(1, 3));
+        PartSums y = Check.with("things 8;");
+        y.lay(0, 6);
+        y.put(0, 0, 12_345);
+        y.inverse(0, 1);
+        y.times(0, 1, 0, 2);
+        due("16: of eight things", y.at(2, 0), 1);
+        for (int set = 1; set < 256; set++) {
+            due("16: of eight things", y.at(2, set), 0);
+        }
         x.put(0, 0, 0);
         int acts = x.now(3);
         due("16: 0", x.inverse(0, 1), -1);
@@ -527,6 +546,9 @@ public final class PromiseTest {
         x.weigh(4, 0);
         due("22: no parting", Check.part(x, 4, 0), -2);
         due("22: without things", Check.part(new PartSums(), 0, 0), -2);
+        PartSums z = Check.with("things 3;set b;set ac;");
+        due("22: with the least thing", Check.part(z, 7, 0), 5);
+        due("22: with the least thing", Check.part(z, 7, 1), 2);
         PartSums y = Check.with("things 8;set a;set b;set c;set d;set e;set f;set g;set h;");
         due("22: the eighth", Check.part(y, 255, 7), 128);
         due("22: no ninth", Check.part(y, 255, 8), -2);
@@ -688,6 +710,8 @@ public final class PromiseTest {
         due("30: none", x.drawn(61, 1), -1);
         due("30: none", x.drawn(-1, 1), -1);
         due("30: no acts", x.now(3), 0);
+        due("30: one", Check.with("things 3;").drawn(1, 1), oneDeed(1));
+        due("30: one", Check.with("things 3;").drawn(1, 9), oneDeed(9));
         int[] pairs = new int[3];
         int[] weights = new int[8];
         int[] seeds = {1, 5, -77, SMALL, BIG, 0};
@@ -709,6 +733,10 @@ public final class PromiseTest {
             }
         }
         due("30: acts", x.now(3), seeds.length);
+    }
+
+    private static int oneDeed(int seed) {
+        return draw(new int[] {seed}, 3) == 1 ? 1 : 0;
     }
 
     private static int draw(int[] s, int n) {

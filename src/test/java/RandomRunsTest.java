@@ -75,18 +75,18 @@ public final class RandomRunsTest {
             case 1: return sets;
             case 2: return 0;
             case 3: case 4: return sets - 1;
-            case 5: return random.nextInt(30) == 0 ? random.nextInt() : sets - 1;
+            case 5: return random.nextInt(10) == 0 ? far() : sets - 1;
             default: return random.nextInt(sets);
         }
     }
 
     private int thing() {
         int things = Math.max(1, y.now(0));
-        return random.nextInt(15) == 0 ? pick(-1, things, 31, 32, Integer.MIN_VALUE) : random.nextInt(things);
+        return random.nextInt(15) == 0 ? pick(-1, things, 31, 32, far()) : random.nextInt(things);
     }
 
     private int row() {
-        return random.nextInt(25) == 0 ? pick(-1, 4, Integer.MAX_VALUE) : random.nextInt(4);
+        return random.nextInt(25) == 0 ? pick(-1, 4, far()) : random.nextInt(4);
     }
 
     private int pick(int... of) {
@@ -94,7 +94,11 @@ public final class RandomRunsTest {
     }
 
     private int upTo(int most) {
-        return random.nextInt(12) == 0 ? pick(-1, most + 1, 0, most) : random.nextInt(most + 1);
+        return random.nextInt(12) == 0 ? pick(-1, most + 1, 0, most, far()) : random.nextInt(most + 1);
+    }
+
+    private int far() {
+        return pick(Integer.MIN_VALUE, Integer.MAX_VALUE, random.nextInt());
     }
 
     private void step() {
@@ -198,7 +202,7 @@ public final class RandomRunsTest {
         int a = thing();
         int b = thing();
         int set = set();
-        int k = random.nextInt(10) == 0 ? pick(-1, 2, 7) : random.nextInt(2);
+        int k = random.nextInt(10) == 0 ? pick(-1, 2, far()) : random.nextInt(2);
         switch (random.nextInt(12)) {
             case 0: case 1: {
                 int w = random.nextInt(3) == 0 ? 0 : random.nextBoolean() ? upTo(5) : upTo(999);
@@ -214,7 +218,7 @@ public final class RandomRunsTest {
                 due("name " + a + " " + b, x.name(a, b), y.name(a, b));
                 break;
             case 5: {
-                int n = random.nextInt(8) == 0 ? pick(0, 61, -5) : 1 + random.nextInt(60);
+                int n = random.nextInt(8) == 0 ? pick(0, 61, -5, far()) : 1 + random.nextInt(60);
                 int seed = random.nextInt();
                 due("drawn " + n + " " + seed, x.drawn(n, seed), y.drawn(n, seed));
                 break;

@@ -63,6 +63,12 @@ public final class TextTest {
         wrong("set a;", 1, 0);
         wrong("thing 2;", 1, 0);
         wrong("thingss 2;", 1, 0);
+        wrong("xhings 2;", 1, 0);
+        wrong("thinxs 2;", 1, 0);
+        wrong("thingx 2;", 1, 0);
+        wrong("things 2;xet a;", 1, 9);
+        wrong("things 2;sea a;", 1, 9);
+        wrong("things 2;pain ab;", 1, 9);
         wrong("things", 1, 6);
         wrong("things ", 1, 7);
         wrong("things ;", 1, 7);
@@ -106,6 +112,7 @@ public final class TextTest {
         wrong("things 8;pair things;", 3, 14);
         wrong("things 8;pair set;", 3, 14);
         wrong("things 8;set i;", 3, 13);
+        wrong("things 8;set z;", 3, 13);
         wrong("things 2;pair a;", 3, 14);
         wrong("things 3;pair abc;", 3, 14);
         wrong("things 2;pair aa;", 3, 14);
