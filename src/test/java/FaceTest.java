@@ -32,6 +32,7 @@ public final class FaceTest {
 
     public static void main(String[] args) throws IOException {
         face();
+        inside();
         if (args.length > 0) {
             source(Files.readString(Path.of(args[0])));
         }
@@ -81,6 +82,35 @@ public final class FaceTest {
         Check.due("a public one without parameters", Modifier.isPublic(made[0].getModifiers())
             && made[0].getParameterCount() == 0, true);
         Check.due("NONE", PartSums.NONE, -1);
+    }
+
+    private static void inside() {
+        Set<String> names = new TreeSet<>();
+        for (Method m : PartSums.class.getDeclaredMethods()) {
+            if (Modifier.isPublic(m.getModifiers())) {
+                names.add(m.getName());
+            }
+        }
+        Check.due("few classes", PartSums.class.getDeclaredClasses().length <= 11, true);
+        fewFields(PartSums.class);
+        for (Class<?> c : PartSums.class.getDeclaredClasses()) {
+            Check.due(c + " is static", Modifier.isStatic(c.getModifiers()), true);
+            Check.due(c + " is hidden", Modifier.isPublic(c.getModifiers()) || Modifier.isProtected(c.getModifiers()),
+                false);
+            fewFields(c);
+            for (Method m : c.getDeclaredMethods()) {
+                Check.due(m + " has a name of its own", names.contains(m.getName()), false);
+                Check.due(m + " has few parameters", m.getParameterCount() <= 7, true);
+            }
+        }
+    }
+
+    private static void fewFields(Class<?> c) {
+        int fields = 0;
+        for (Field f : c.getDeclaredFields()) {
+            fields += Modifier.isStatic(f.getModifiers()) ? 0 : 1;
+        }
+        Check.due(c + " has few fields", fields <= 20, true);
     }
 
     private static void source(String text) {

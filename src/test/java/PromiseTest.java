@@ -23,9 +23,7 @@ public final class PromiseTest {
     }
 
     private static void fill(PartSums x, int row, int... numbers) {
-        for (int set = 0; set < numbers.length; set++) {
-            x.put(row, set, numbers[set]);
-        }
+        Check.fill(x, row, numbers);
     }
 
     public static void main(String[] args) {
@@ -282,14 +280,8 @@ public final class PromiseTest {
         due("11: not without its middle", z.at(1, 255 - 64), 0);
     }
 
-    static String complete(int things) {
-        StringBuilder text = new StringBuilder("things ").append(things).append(";");
-        for (int a = 0; a < things; a++) {
-            for (int b = 0; b < a; b++) {
-                text.append("pair ").append((char) ('a' + a)).append((char) ('a' + b)).append(";");
-            }
-        }
-        return text.toString();
+    private static String complete(int things) {
+        return Check.complete(things);
     }
 
     private static void promise12() {
@@ -435,9 +427,7 @@ public final class PromiseTest {
     }
 
     private static void fillAll(PartSums x, int row, int v) {
-        for (int set = 0; x.at(row, set) >= 0; set++) {
-            x.put(row, set, v);
-        }
+        Check.fillAll(x, row, v);
     }
 
     private static void promise18() {
